@@ -351,6 +351,11 @@ public final class PromisesTest {
         Due.is("on the line behind the piece", x.where(999, 0), -2);
         Due.is("on a lower line", x.where(5, 999), -3);
         Due.is("on a lower line", x.where(5, -999), -4);
+        CutTrees chain = level(24);
+        chain.build(0, 0);
+        Due.is("the longest way down", chain.where(0, 1000), 0);
+        Due.is("the lowest line", chain.where(0, 23), -2 - 23);
+        Due.is("the shortest way down", chain.where(0, -1), 24);
         for (int wrong : WRONG) {
             Due.is("beyond", x.where(wrong, 0), NONE);
             Due.is("beyond", x.where(0, wrong), NONE);
