@@ -4,17 +4,26 @@ final class Due {
     static final int INDEX = 1;
     static final int ELEMENT = 2;
 
+    /** Beyond -1000 .. 1000; cut down to 16 bits, or made positive by Math.abs, some would not be. */
+    static final int[] BEYOND = {Integer.MIN_VALUE, -65_536, -1001, 1001, 65_536, Integer.MAX_VALUE};
+
     private static int wrong = 0;
     private static int asked = 0;
+    private static String sentence = "";
 
     private Due() {
+    }
+
+    /** Of what sentence of the document the answers that follow are. */
+    static void sentence(String told) {
+        sentence = told + ": ";
     }
 
     static void is(String call, long got, long want) {
         asked++;
         if (got != want) {
             wrong++;
-            System.out.println(call + " answered " + got + ", due is " + want);
+            System.out.println(sentence + call + " answered " + got + ", due is " + want);
         }
     }
 
@@ -50,6 +59,27 @@ final class Due {
         }
         is("told(-1)", x.told(-1), CutTrees.NONE);
         is("told(" + wants.length + ")", x.told(wants.length), CutTrees.NONE);
+    }
+
+    /** That there is no tree, by every call that would tell of one. */
+    static void noTree(CutTrees x, int pieces) {
+        counts(x, pieces, 0, 0, 0, 0, 0);
+        is("where(0, 0)", x.where(0, 0), CutTrees.NONE);
+        is("order(0, 0)", x.order(0, 0), CutTrees.NONE);
+        told(x);
+        for (int p = 0; p < pieces; p++) {
+            is("look(" + p + ", 4)", x.look(p, 4), 0);
+        }
+        is("knot(0, 0) throws", thrownByKnot(x, 0, 0), INDEX);
+        is("part(0, 0) throws", thrownByPart(x, 0, 0), INDEX);
+    }
+
+    /** That the tree of Make.toldCross() stands and its parts are told as they were. */
+    static void stillToldCross(CutTrees x) {
+        counts(x, 2, 3, 3, 4, 2, 1);
+        knot(x, 0, 0, 1, 0, 1, 2, CutTrees.NONE);
+        is("where(9, -5)", x.where(9, -5), 3);
+        told(x, 2, 0, 1);
     }
 
     /** What is met, three numbers for each, and that no other is. */

@@ -3,7 +3,7 @@ public final class PromisesTest {
     private static final int NONE = CutTrees.NONE;
     private static final int LEAST_INT = Integer.MIN_VALUE;
     private static final int LARGEST_INT = Integer.MAX_VALUE;
-    private static final int[] WRONG = {LEAST_INT, -1001, 1001, LARGEST_INT};
+    private static final int[] WRONG = Due.BEYOND;
 
     public static void main(String[] args) {
         newObject();
@@ -31,41 +31,6 @@ public final class PromisesTest {
         Due.end();
     }
 
-    private static CutTrees of(int... corners) {
-        CutTrees x = new CutTrees();
-        for (int i = 0; i + 3 < corners.length; i += 4) {
-            Due.is("piece", x.piece(corners[i], corners[i + 1], corners[i + 2], corners[i + 3]), i / 4);
-        }
-        return x;
-    }
-
-    /** Level pieces, one above another, each with those above it in front. */
-    private static CutTrees level(int many) {
-        CutTrees x = new CutTrees();
-        for (int i = 0; i < many; i++) {
-            x.piece(0, i, 10, i);
-        }
-        return x;
-    }
-
-    /** Any two cross, no three at one place: the lines touch a parabola. */
-    private static CutTrees tangents(int first, int many) {
-        CutTrees x = new CutTrees();
-        for (int i = first; i < first + many; i++) {
-            x.piece(-15, -30 * i - i * i, 15, 30 * i - i * i);
-        }
-        return x;
-    }
-
-    /** All cross at one place. */
-    private static CutTrees star(int many) {
-        CutTrees x = new CutTrees();
-        for (int i = 0; i < many; i++) {
-            x.piece(-10, -i, 10, i);
-        }
-        return x;
-    }
-
     private static void newObject() {
         CutTrees x = new CutTrees();
         Due.is("NONE", CutTrees.NONE, -1);
@@ -81,13 +46,13 @@ public final class PromisesTest {
         Due.is("ray", x.ray(0, 0, 1, 0), 0);
         Due.is("least", x.least(), 0);
         Due.is("sum", x.sum(), 0);
-        CutTrees other = of(0, 0, 1, 0);
+        CutTrees other = Make.of(0, 0, 1, 0);
         other.build(0, 0);
         Due.counts(x, 0, 0, 0, 0, 0, 0);
     }
 
     private static void piece() {
-        CutTrees x = of(-1000, -1000, 1000, 1000, -1000, -1000, 1000, 1000, 1000, 1000, -1000, -1000);
+        CutTrees x = Make.of(-1000, -1000, 1000, 1000, -1000, -1000, 1000, 1000, 1000, 1000, -1000, -1000);
         for (int wrong : WRONG) {
             Due.is("x0", x.piece(wrong, 0, 1, 1), NONE);
             Due.is("y0", x.piece(0, wrong, 1, 1), NONE);
@@ -108,7 +73,7 @@ public final class PromisesTest {
     }
 
     private static void pieceTakesTheTree() {
-        CutTrees x = of(0, 0, 10, 0, 5, -5, 5, 5);
+        CutTrees x = Make.of(0, 0, 10, 0, 5, -5, 5, 5);
         x.build(0, 0);
         x.order(0, 5);
         Due.is("refused", x.piece(0, 0, 0, 0), NONE);
@@ -116,27 +81,15 @@ public final class PromisesTest {
         Due.counts(x, 2, 3, 3, 4, 2, 1);
         Due.told(x, 2, 0, 1);
         Due.is("piece", x.piece(1, 1, 2, 2), 2);
-        noTree(x, 3);
-    }
-
-    private static void noTree(CutTrees x, int pieces) {
-        Due.counts(x, pieces, 0, 0, 0, 0, 0);
-        Due.is("where", x.where(0, 0), NONE);
-        Due.is("order", x.order(0, 0), NONE);
-        Due.told(x);
-        for (int p = 0; p < pieces; p++) {
-            Due.is("parts of " + p, x.look(p, 4), 0);
-        }
-        Due.is("knot throws", Due.thrownByKnot(x, 0, 0), Due.INDEX);
-        Due.is("part throws", Due.thrownByPart(x, 0, 0), Due.INDEX);
+        Due.noTree(x, 3);
     }
 
     private static void drop() {
-        CutTrees x = of(0, 0, 10, 0, 5, -5, 5, 5);
+        CutTrees x = Make.of(0, 0, 10, 0, 5, -5, 5, 5);
         x.build(0, 0);
         x.order(0, 5);
         Due.is("drop", x.drop(), 1);
-        noTree(x, 1);
+        Due.noTree(x, 1);
         Due.look(x, 0, 0, 0, 10, 0, 0);
         Due.is("look throws", Due.thrownByLook(x, 1, 0), Due.INDEX);
         Due.is("piece", x.piece(1, 2, 3, 4), 1);
@@ -151,7 +104,7 @@ public final class PromisesTest {
     }
 
     private static void look() {
-        CutTrees x = of(1, -2, -3, 4, -1000, 1000, 1000, -1000);
+        CutTrees x = Make.of(1, -2, -3, 4, -1000, 1000, 1000, -1000);
         Due.look(x, 0, 1, -2, -3, 4, 0);
         Due.look(x, 1, -1000, 1000, 1000, -1000, 0);
         x.build(0, 0);
@@ -175,7 +128,7 @@ public final class PromisesTest {
             Due.counts(empty, 0, 0, 0, 1, 0, 0);
         }
         // On one line, one of them the other way round, with a piece between that only touches it.
-        CutTrees x = of(0, 0, 10, 0, 5, 0, 5, 7, 30, 0, 20, 0, 6, -2, 6, 0);
+        CutTrees x = Make.of(0, 0, 10, 0, 5, 0, 5, 7, 30, 0, 20, 0, 6, -2, 6, 0);
         Due.is("build", x.build(0, 0), 3);
         Due.counts(x, 4, 3, 4, 4, 2, 0);
         Due.knot(x, 0, 0, 2, 0, 1, 2, NONE);
@@ -183,7 +136,7 @@ public final class PromisesTest {
         Due.knot(x, 2, 3, 1, 3, -4, -5, 0);
         Due.part(x, 1, 2, 30, 0, 1, 20, 0, 1, 0);
         // A cut piece stays at its place in the row: the halves of piece 1 come ahead of piece 2.
-        CutTrees y = of(0, 0, 10, 0, 5, -5, 5, 5, 1, 1, 9, 1, 1, -1, 9, -1);
+        CutTrees y = Make.of(0, 0, 10, 0, 5, -5, 5, 5, 1, 1, 9, 1, 1, -1, 9, -1);
         Due.is("build", y.build(0, 0), 7);
         Due.knot(y, 0, 0, 1, 0, 1, 4, NONE);
         Due.knot(y, 1, 1, 1, 1, 2, 3, 0);
@@ -195,19 +148,19 @@ public final class PromisesTest {
     }
 
     private static void buildRule1() {
-        CutTrees x = of(5, -1, 5, 1, 0, 3, 10, 3);
+        CutTrees x = Make.of(5, -1, 5, 1, 0, 3, 10, 3);
         Due.is("rule 0", x.build(0, 0), 3);
         Due.knot(x, 0, 0);
         Due.is("rule 1", x.build(1, 0), 2);
         Due.knot(x, 0, 1, 1, 0, -2, 1, NONE);
-        CutTrees alike = of(0, 0, 10, 0, 5, -5, 5, 5);
+        CutTrees alike = Make.of(0, 0, 10, 0, 5, -5, 5, 5);
         alike.build(1, 0);
         Due.knot(alike, 0, 0);
     }
 
     // From the seed 1 the draws are 16838, 5758, 10113, 17515, 31051.
     private static void buildRule2() {
-        CutTrees x = level(5);
+        CutTrees x = Make.level(5);
         Due.is("build", x.build(2, 1), 5);
         Due.counts(x, 5, 5, 5, 6, 4, 0);
         Due.knot(x, 0, 3, 1, 0, 1, 2, NONE);
@@ -219,7 +172,7 @@ public final class PromisesTest {
         x.build(2, 1);
         Due.knot(x, 0, 3);
         // Worked out in 64 bits and then brought down to 32: the draw goes round.
-        CutTrees y = level(24);
+        CutTrees y = Make.level(24);
         int draw = (int) (1103515245L * LEAST_INT + 12345L) >> 16 & 32767;
         y.build(2, LEAST_INT);
         Due.knot(y, 0, draw % 24);
@@ -229,16 +182,16 @@ public final class PromisesTest {
     }
 
     private static void buildRule3() {
-        // Line 0 cuts piece 1 and leaves one on each side; line 1 leaves one on one side alone.
-        CutTrees cutting = of(0, 3, 10, 3, 5, -1, 5, 1);
+        // Line 1 cuts piece 0 and leaves one on each side; line 0 leaves one on one side alone.
+        CutTrees cutting = Make.of(0, 3, 10, 3, 5, -1, 5, 1);
         Due.is("rule 3", cutting.build(3, 0), 3);
         Due.knot(cutting, 0, 1);
         // Line 0 cuts both others, line 1 lies between the others: alike sizes, fewer cuts.
-        CutTrees fewer = of(5, -1, 5, 1, 0, 3, 10, 3, 0, 6, 10, 6);
+        CutTrees fewer = Make.of(5, -1, 5, 1, 0, 3, 10, 3, 0, 6, 10, 6);
         Due.is("rule 3", fewer.build(3, 0), 3);
         Due.knot(fewer, 0, 1);
         // The middle one of five, then of two the first.
-        CutTrees middle = level(5);
+        CutTrees middle = Make.level(5);
         middle.build(3, 0);
         Due.knot(middle, 0, 2, 1, 0, 1, 3, NONE);
         Due.knot(middle, 1, 3, 1, 1, 2, -4, 0);
@@ -247,7 +200,7 @@ public final class PromisesTest {
     }
 
     private static void buildRefused() {
-        CutTrees x = of(0, 0, 10, 0, 5, -5, 5, 5);
+        CutTrees x = Make.of(0, 0, 10, 0, 5, -5, 5, 5);
         x.build(0, 0);
         x.order(0, 5);
         int[] noRule = {LEAST_INT, -1, 4, LARGEST_INT};
@@ -258,11 +211,11 @@ public final class PromisesTest {
         Due.told(x, 2, 0, 1);
         x.drop();
         Due.is("build", x.build(4, 0), NONE);
-        noTree(x, 1);
+        Due.noTree(x, 1);
     }
 
     private static void count() {
-        CutTrees x = of(0, 0, 10, 0, 5, -5, 5, 5, 20, 0, 30, 0);
+        CutTrees x = Make.of(0, 0, 10, 0, 5, -5, 5, 5, 20, 0, 30, 0);
         Due.counts(x, 3, 0, 0, 0, 0, 0);
         x.build(0, 0);
         Due.counts(x, 3, 3, 4, 4, 2, 1);
@@ -270,18 +223,18 @@ public final class PromisesTest {
         for (int wrong : noWhat) {
             Due.is("count", x.count(wrong), NONE);
         }
-        CutTrees chain = level(24);
+        CutTrees chain = Make.level(24);
         chain.build(0, 0);
         Due.counts(chain, 24, 24, 24, 25, 24, 0);
         chain.build(3, 0);
         Due.counts(chain, 24, 24, 24, 25, 5, 0);
-        CutTrees star = star(7);
+        CutTrees star = Make.star(7);
         star.build(0, 0);
         Due.counts(star, 7, 13, 13, 14, 7, 6);
     }
 
     private static void knot() {
-        CutTrees x = of(0, 0, 10, 0, 5, -5, 5, 5, 20, 0, 30, 0);
+        CutTrees x = Make.of(0, 0, 10, 0, 5, -5, 5, 5, 20, 0, 30, 0);
         x.build(0, 0);
         Due.knot(x, 0, 0, 2, 0, 1, 2, NONE);
         Due.knot(x, 1, 1, 1, 2, -2, -3, 0);
@@ -298,18 +251,18 @@ public final class PromisesTest {
     }
 
     private static void part() {
-        CutTrees x = of(-1000, -1000, 1000, 999, -1000, 1000, 1000, -1000);
+        CutTrees x = Make.of(-1000, -1000, 1000, 999, -1000, 1000, 1000, -1000);
         x.build(0, 0);
         Due.part(x, 0, 0, -1000, -1000, 1, 1000, 999, 1, 0);
         Due.part(x, 1, 1, -1000, 1000, 1, 1000, -1000, 3999, 1);
         Due.part(x, 2, 1, 1000, -1000, 3999, 1000, -1000, 1, 2);
         // Against the run of the line the second half is in front and is numbered first.
-        CutTrees y = of(10, 0, -10, 0, 0, -3, 2, 3);
+        CutTrees y = Make.of(10, 0, -10, 0, 0, -3, 2, 3);
         y.build(0, 0);
         Due.part(y, 1, 1, 0, -3, 1, 1, 0, 1, 1);
         Due.part(y, 2, 1, 1, 0, 1, 2, 3, 1, 2);
         // X and W, but not Y, share a divisor: the three of them share none.
-        CutTrees z = of(0, 1, 12, 6, 6, -100, 6, 100, 3, -100, 3, 100);
+        CutTrees z = Make.of(0, 1, 12, 6, 6, -100, 6, 100, 3, -100, 3, 100);
         z.build(0, 0);
         Due.part(z, 0, 0, 0, 1, 1, 12, 6, 1, 0);
         Due.part(z, 1, 1, 12, 7, 2, 6, 100, 1, 1);
@@ -329,7 +282,7 @@ public final class PromisesTest {
     }
 
     private static void cutTwice() {
-        CutTrees x = of(0, 0, 0, 1, 1, 0, 1, 1, 4, 5, -2, 5);
+        CutTrees x = Make.of(0, 0, 0, 1, 1, 0, 1, 1, 4, 5, -2, 5);
         x.build(0, 0);
         Due.counts(x, 3, 5, 5, 6, 3, 2);
         Due.part(x, 0, 0, 0, 0, 1, 0, 1, 1, 0);
@@ -340,7 +293,7 @@ public final class PromisesTest {
     }
 
     private static void where() {
-        CutTrees x = of(0, 0, 10, 0, 5, -5, 5, 5);
+        CutTrees x = Make.of(0, 0, 10, 0, 5, -5, 5, 5);
         Due.is("without a tree", x.where(0, 0), NONE);
         x.build(0, 0);
         Due.is("where", x.where(-1000, 1000), 0);
@@ -351,7 +304,7 @@ public final class PromisesTest {
         Due.is("on the line behind the piece", x.where(999, 0), -2);
         Due.is("on a lower line", x.where(5, 999), -3);
         Due.is("on a lower line", x.where(5, -999), -4);
-        CutTrees chain = level(24);
+        CutTrees chain = Make.level(24);
         chain.build(0, 0);
         Due.is("the longest way down", chain.where(0, 1000), 0);
         Due.is("the lowest line", chain.where(0, 23), -2 - 23);
@@ -363,7 +316,7 @@ public final class PromisesTest {
     }
 
     private static void orderAndTold() {
-        CutTrees x = of(0, 0, 10, 0, 5, -5, 5, 5, 20, 0, 30, 0);
+        CutTrees x = Make.of(0, 0, 10, 0, 5, -5, 5, 5, 20, 0, 30, 0);
         Due.is("without a tree", x.order(0, 0), NONE);
         x.build(0, 0);
         Due.told(x);
@@ -380,7 +333,7 @@ public final class PromisesTest {
         Due.told(x, 2, 0, 1, 3);
         Due.is("told", x.told(LEAST_INT), NONE);
         Due.is("told", x.told(LARGEST_INT), NONE);
-        CutTrees y = level(4);
+        CutTrees y = Make.level(4);
         y.build(3, 0);
         Due.is("from above", y.order(0, 1000), 4);
         for (int k = 0; k < 4; k++) {
@@ -397,7 +350,7 @@ public final class PromisesTest {
     }
 
     private static void toldOfAnotherTree() {
-        CutTrees x = of(0, 0, 10, 0, 5, -5, 5, 5);
+        CutTrees x = Make.of(0, 0, 10, 0, 5, -5, 5, 5);
         x.build(0, 0);
         x.order(0, 5);
         Due.told(x, 2, 0, 1);
@@ -420,7 +373,7 @@ public final class PromisesTest {
     }
 
     private static void sees() {
-        CutTrees x = of(0, 0, 10, 0, 20, 10, 30, 20);
+        CutTrees x = Make.of(0, 0, 10, 0, 20, 10, 30, 20);
         Due.is("across", x.sees(5, 5, 5, -5), 0);
         Due.is("across, the other way", x.sees(5, -5, 5, 5), 0);
         Due.is("beside", x.sees(11, 5, 11, -5), 1);
@@ -441,7 +394,7 @@ public final class PromisesTest {
         Due.is("beside the slant", x.sees(20, 11, 29, 20), 1);
         Due.is("far", x.sees(-1000, -1000, 1000, 1000), 0);
         Due.is("far", x.sees(-1000, 1000, 1000, 1000), 1);
-        CutTrees narrow = of(-1000, -1000, 1000, 999);
+        CutTrees narrow = Make.of(-1000, -1000, 1000, 999);
         Due.is("missed by little", narrow.sees(-999, -999, 1000, 1000), 1);
         Due.is("hit by little", narrow.sees(-999, -999, 1000, 999), 0);
         for (int wrong : WRONG) {
@@ -453,7 +406,7 @@ public final class PromisesTest {
     }
 
     private static void ray() {
-        CutTrees x = of(10, -5, 10, 5, 4, 5, 4, -5, 0, 0, 2, 0);
+        CutTrees x = Make.of(10, -5, 10, 5, 4, 5, 4, -5, 0, 0, 2, 0);
         Due.is("all", x.ray(-1, 0, 1, 0), 3);
         Due.met(x, 2, 1, 1, 1, 5, 1, 0, 11, 1);
         Due.is("longer steps", x.ray(-1, 0, 10, 0), 3);
@@ -473,10 +426,10 @@ public final class PromisesTest {
         Due.met(x, 1, 1, 1);
         Due.is("beside a corner", x.ray(3, 5, 1, 1), 0);
         Due.is("beside, along", x.ray(-1, 1, 0, 1), 0);
-        CutTrees alike = of(5, 5, 15, 5, 10, 0, 10, 10, 20, 10, 0, 0, 9, 4, 11, 6);
+        CutTrees alike = Make.of(5, 5, 15, 5, 10, 0, 10, 10, 20, 10, 0, 0, 9, 4, 11, 6);
         Due.is("all at one place", alike.ray(10, 0, 0, 1000), 4);
         Due.met(alike, 1, 0, 1, 0, 1, 200, 2, 1, 200, 3, 1, 200);
-        CutTrees far = of(1000, -1000, -1000, 1000, -1000, -999, 999, 1000);
+        CutTrees far = Make.of(1000, -1000, -1000, 1000, -1000, -999, 999, 1000);
         Due.is("far", far.ray(-1000, -1000, 1000, 999), 1);
         Due.met(far, 0, 2000, 1999);
         Due.is("farthest", far.ray(1000, 1000, -1000, -999), 2);
@@ -496,7 +449,7 @@ public final class PromisesTest {
     }
 
     private static void met() {
-        CutTrees x = of(0, 0, 10, 0, 5, -5, 5, 5);
+        CutTrees x = Make.of(0, 0, 10, 0, 5, -5, 5, 5);
         x.ray(20, 0, -3, 0);
         Due.met(x, 0, 10, 3, 1, 5, 1);
         x.drop();
@@ -516,19 +469,19 @@ public final class PromisesTest {
     }
 
     private static void least() {
-        Due.is("cut or not", of(5, -1, 5, 1, 0, 3, 10, 3).least(), 2);
-        Due.is("one line", of(0, 0, 1, 0, 5, 0, 3, 0, 0, 0, 1, 0).least(), 3);
-        Due.is("all crossing", tangents(0, 5).least(), 15);
-        Due.is("star", star(5).least(), 9);
-        Due.is("too many", tangents(0, 6).least(), NONE);
-        Due.is("too many", level(6).least(), NONE);
+        Due.is("cut or not", Make.of(5, -1, 5, 1, 0, 3, 10, 3).least(), 2);
+        Due.is("one line", Make.of(0, 0, 1, 0, 5, 0, 3, 0, 0, 0, 1, 0).least(), 3);
+        Due.is("all crossing", Make.tangents(0, 5).least(), 15);
+        Due.is("star", Make.star(5).least(), 9);
+        Due.is("too many", Make.tangents(0, 6).least(), NONE);
+        Due.is("too many", Make.level(6).least(), NONE);
         // Three in a ring, line 0 cuts piece 1, that 2, that 0: once a line is taken, the next one's
         // piece is cut; taking the next one's line then cuts again, taking the other one's does not.
-        CutTrees ring = of(0, 0, 10, 0, 12, -2, 7, 8, 8, 12, 1, 1);
+        CutTrees ring = Make.of(0, 0, 10, 0, 12, -2, 7, 8, 8, 12, 1, 1);
         Due.is("a ring", ring.build(0, 0), 5);
         Due.is("a ring", ring.least(), 4);
         Due.is("a ring", ring.sum(), 3 * 5 + 3 * 4);
-        CutTrees level = level(5);
+        CutTrees level = Make.level(5);
         Due.is("level", level.least(), 5);
         level.piece(100, 0, 100, 1);
         Due.is("six", level.least(), NONE);
@@ -537,18 +490,18 @@ public final class PromisesTest {
     }
 
     private static void sum() {
-        Due.is("cut or not", of(5, -1, 5, 1, 0, 3, 10, 3).sum(), 5);
-        Due.is("one line", of(0, 0, 1, 0, 5, 0, 3, 0, 0, 0, 1, 0).sum(), 18);
-        Due.is("one", level(1).sum(), 1);
-        Due.is("all crossing", tangents(0, 6).sum(), 720 * 21);
-        Due.is("star", star(6).sum(), 720 * 11);
-        Due.is("level", level(6).sum(), 720 * 6);
-        Due.is("too many", level(7).sum(), NONE);
-        Due.is("too many", tangents(0, 24).sum(), NONE);
+        Due.is("cut or not", Make.of(5, -1, 5, 1, 0, 3, 10, 3).sum(), 5);
+        Due.is("one line", Make.of(0, 0, 1, 0, 5, 0, 3, 0, 0, 0, 1, 0).sum(), 18);
+        Due.is("one", Make.level(1).sum(), 1);
+        Due.is("all crossing", Make.tangents(0, 6).sum(), 720 * 21);
+        Due.is("star", Make.star(6).sum(), 720 * 11);
+        Due.is("level", Make.level(6).sum(), 720 * 6);
+        Due.is("too many", Make.level(7).sum(), NONE);
+        Due.is("too many", Make.most().sum(), NONE);
     }
 
     private static void mostParts() {
-        CutTrees x = tangents(-12, 24);
+        CutTrees x = Make.most();
         for (int rule = 0; rule < 4; rule++) {
             Due.is("build", x.build(rule, 77), 300);
             Due.counts(x, 24, 300, 300, 301);
