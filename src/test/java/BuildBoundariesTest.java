@@ -12,6 +12,7 @@ public final class BuildBoundariesTest {
         touchingIsNotCutting();
         lineReachesBeyondItsPiece();
         barelyCut();
+        cutOfLongPieces();
         notCutTwiceAtOnePlace();
         wholeRowOnOneLine();
         lineIsTheChosenOnes();
@@ -135,6 +136,20 @@ public final class BuildBoundariesTest {
         Due.is("of one side there is little", atItsEnd.build(0, 0), 3);
         CutTrees onIt = Make.of(-1000, -1000, 1000, 999, -1000, -1000, 1000, -1000);
         Due.is("of one side there is nothing", onIt.build(0, 0), 2);
+    }
+
+    // The half of piece 2 at the left ends at 0, 0, ahead of the line of piece 1; to find that out
+    // takes products beyond 32 bits.
+    private static void cutOfLongPieces() {
+        Due.sentence("Terms 2, sides of the PARTS of long PIECES");
+        CutTrees x = Make.of(0, -1000, 0, 1000, -1000, 1000, -500, 800, -1000, -1000, 1000, 1000);
+        Due.is("build", x.build(0, 0), 4);
+        Due.part(x, 2, 2, -1000, -1000, 1, 0, 0, 1, 2);
+        Due.part(x, 3, 2, 0, 0, 1, 1000, 1000, 1, 3);
+        CutTrees turned = Make.of(0, -1000, 0, 1000, -1000, 1000, -500, 800, 1000, 1000, -1000, -1000);
+        Due.is("build", turned.build(0, 0), 4);
+        Due.part(turned, 2, 2, 0, 0, 1, -1000, -1000, 1, 2);
+        Due.part(turned, 3, 2, 1000, 1000, 1, 0, 0, 1, 3);
     }
 
     private static void notCutTwiceAtOnePlace() {

@@ -11,6 +11,7 @@ public final class SightBoundariesTest {
         seesWithItsOwnPlaces();
         seesFromAPlaceToItself();
         seesPastACorner();
+        seesFromBarelyBeside();
         seesAlongALine();
         seesPastTheLastOf24();
         seesWithoutTree();
@@ -24,6 +25,8 @@ public final class SightBoundariesTest {
         rayFromBarelyBeside();
         rayPastACorner();
         rayAlongALine();
+        rayFromBarelyBehind();
+        rayThatSlantsBarely();
         rayGoesOn();
         fractionsWithoutCommonDivisor();
         largeFractions();
@@ -116,6 +119,17 @@ public final class SightBoundariesTest {
         Due.is("its line is crossed, it is not", level.sees(500, 1, 501, -1), 1);
         Due.is("the way's line crosses it, the way does not", level.sees(5, 1, 5, 1000), 1);
         Due.is("the way's line crosses it, the way does not", level.sees(5, -1000, 5, -1), 1);
+    }
+
+    private static void seesFromBarelyBeside() {
+        Due.sentence("Terms 3, from a place beside a PIECE");
+        CutTrees x = Make.of(-1000, -1000, 1000, 999);
+        Due.is("in front by 1", x.sees(-999, -999, -1000, 1000), 1);
+        Due.is("in front by 1", x.sees(-1000, 1000, -999, -999), 1);
+        Due.is("in back by 1", x.sees(999, 998, 1000, -1000), 1);
+        Due.is("in back by 1", x.sees(1000, -1000, 999, 998), 1);
+        Due.is("from in front to in back", x.sees(-999, -999, 1000, -1000), 0);
+        Due.is("from in front to in back", x.sees(-999, -999, 999, 998), 0);
     }
 
     private static void seesAlongALine() {
@@ -301,6 +315,29 @@ public final class SightBoundariesTest {
         Due.is("to an upright one", upright.ray(3, -1, 0, 6), 1);
         Due.met(upright, 0, 1, 2);
         Due.is("away from an upright one", upright.ray(3, 7, 0, 6), 0);
+    }
+
+    private static void rayFromBarelyBehind() {
+        Due.sentence("Terms 3, T, 0 and more, on the line of a PIECE");
+        CutTrees x = Make.of(-5, 0, -1, 0, -1, 0, -5, 0);
+        Due.is("1 behind it, away", x.ray(0, 0, 1, 0), 0);
+        Due.is("at its end, away", x.ray(-1, 0, 1, 0), 2);
+        Due.met(x, 0, 0, 1, 1, 0, 1);
+        Due.is("1 ahead of it, away", x.ray(-6, 0, -1, 0), 0);
+        Due.is("1 ahead of it, to it", x.ray(-6, 0, 1, 0), 2);
+        Due.met(x, 0, 1, 1, 1, 1, 1);
+    }
+
+    private static void rayThatSlantsBarely() {
+        Due.sentence("Terms 3, on a PIECE that goes nearly the same way");
+        CutTrees x = Make.of(0, 0, 5, 1, 5, 1, 0, 0);
+        Due.is("to the first corner", x.ray(-9, 0, 1, 0), 2);
+        Due.met(x, 0, 9, 1, 1, 9, 1);
+        Due.is("to the second corner", x.ray(-9, 1, 1, 0), 2);
+        Due.met(x, 0, 14, 1, 1, 14, 1);
+        Due.is("to the second corner, back", x.ray(9, 1, -1, 0), 2);
+        Due.met(x, 0, 4, 1, 1, 4, 1);
+        Due.is("beside it", x.ray(-9, 2, 1, 0), 0);
     }
 
     private static void rayGoesOn() {
