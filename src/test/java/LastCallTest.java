@@ -3,13 +3,13 @@ public final class LastCallTest {
     private static final int CALLS = 512;
 
     public static void main(String[] args) {
-        fullTwentyTimes();
+        comeAndGo();
         dearestCalls();
         everyCallRefused();
         Due.end();
     }
 
-    private static void fullTwentyTimes() {
+    private static void comeAndGo() {
         Due.sentence("24 come and go until the 512th call");
         CutTrees x = new CutTrees();
         int calls = 0;
@@ -41,7 +41,7 @@ public final class LastCallTest {
     }
 
     private static void everyCallRefused() {
-        Due.sentence("refused calls until the 512th");
+        Due.sentence("refused calls, and what stands behind them");
         CutTrees x = Make.toldCross();
         for (int call = 4; call < CALLS - 30; call++) {
             switch (call % 8) {
