@@ -256,7 +256,7 @@ public final class CutTrees {
 
         /** Above 0 in front of the line of a piece, below 0 in back; at most 8 million either way. */
         int sideOf(int line, int x, int y) {
-            return cross(x1[line] - x0[line], y1[line] - y0[line], x - x0[line], y - y0[line]);
+            return (x1[line] - x0[line]) * (y - y0[line]) - (y1[line] - y0[line]) * (x - x0[line]);
         }
 
         static int cross(int ax, int ay, int bx, int by) {
@@ -357,18 +357,11 @@ public final class CutTrees {
 
         /** On which sides of a line a part has places: 0, FRONT, BACK or BOTH. */
         int sides(int p, int line) {
-            int atFirst = firstSide(rows.owner[p], line);
-            int atSecond = secondSide(rows.owner[p], line);
+            int piece = rows.owner[p];
+            int atFirst = pieces.sideOf(line, pieces.x0[piece], pieces.y0[piece]);
+            int atSecond = pieces.sideOf(line, pieces.x1[piece], pieces.y1[piece]);
             return sideBetween(atFirst, atSecond, rows.n0[p], rows.d0[p])
                 | sideBetween(atFirst, atSecond, rows.n1[p], rows.d1[p]);
-        }
-
-        private int firstSide(int piece, int line) {
-            return pieces.sideOf(line, pieces.x0[piece], pieces.y0[piece]);
-        }
-
-        private int secondSide(int piece, int line) {
-            return pieces.sideOf(line, pieces.x1[piece], pieces.y1[piece]);
         }
 
         private static int sideBetween(int atFirst, int atSecond, int n, int d) {
@@ -390,9 +383,10 @@ public final class CutTrees {
 
         private void addHalf(int p, int line, int side) {
             int piece = rows.owner[p];
-            int atFirst = firstSide(piece, line);
+            int atFirst = pieces.sideOf(line, pieces.x0[piece], pieces.y0[piece]);
+            int atSecond = pieces.sideOf(line, pieces.x1[piece], pieces.y1[piece]);
             int n = Math.abs(atFirst);
-            int d = n + Math.abs(secondSide(piece, line));
+            int d = n + Math.abs(atSecond);
             boolean frontIsFirst = atFirst > 0;
             if (frontIsFirst == (side == FRONT)) {
                 rows.add(piece, rows.n0[p], rows.d0[p], n, d);

@@ -2,6 +2,8 @@ import java.lang.reflect.Constructor;
 import java.lang.reflect.Field;
 import java.lang.reflect.Method;
 import java.lang.reflect.Modifier;
+import java.util.List;
+import java.util.NoSuchElementException;
 import java.util.Set;
 import java.util.TreeSet;
 
@@ -26,6 +28,10 @@ public final class FaceTest {
         "least int",
         "sum int");
 
+    private static final Set<String> THROWING = Set.of("look", "knot", "part");
+
+    private static final List<Class<?>> THROWN = List.of(IndexOutOfBoundsException.class, NoSuchElementException.class);
+
     public static void main(String[] args) {
         Set<String> seen = new TreeSet<>();
         for (Field field : CutTrees.class.getDeclaredFields()) {
@@ -38,14 +44,19 @@ public final class FaceTest {
         }
         for (Constructor<?> made : CutTrees.class.getDeclaredConstructors()) {
             seen.add(made.getName() + types(made.getParameterTypes()));
+            Due.is(made + " is public", Modifier.isPublic(made.getModifiers()) ? 1 : 0, 1);
         }
         for (Method method : CutTrees.class.getDeclaredMethods()) {
             if (!Modifier.isPrivate(method.getModifiers())) {
                 seen.add(method.getName() + " " + method.getReturnType() + types(method.getParameterTypes()));
                 Due.is(method + " is public", Modifier.isPublic(method.getModifiers()) ? 1 : 0, 1);
+                Due.is(method + " is of an object", Modifier.isStatic(method.getModifiers()) ? 1 : 0, 0);
+                List<Class<?>> thrown = THROWING.contains(method.getName()) ? THROWN : List.of();
+                Due.is(method + " throws its own", List.of(method.getExceptionTypes()).equals(thrown) ? 1 : 0, 1);
             }
         }
         System.out.println(seen);
+        Due.is("NONE", CutTrees.NONE, -1);
         Due.is("the face is the document's", seen.equals(FACE) ? 1 : 0, 1);
         Due.is("the class is final", Modifier.isFinal(CutTrees.class.getModifiers()) ? 1 : 0, 1);
         for (Class<?> inside : CutTrees.class.getDeclaredClasses()) {
